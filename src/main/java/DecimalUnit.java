@@ -43,7 +43,11 @@ public final class DecimalUnit {
 
     // The exact result at hand: (magnitude + t) times ten to the power of scale, below 0 if
     // negative, where t is 0 without a tail and lies between 0 and 1 with one. A magnitude with a
-    // tail always has more than P digits, so that the tail can never decide alone how to round.
+    // tail always has more than P digits, so half a unit of the last digit kept is a whole number
+    // and t itself need not be known to round. The scale is the wanted exponent, but for two kinds
+    // of results: a quotient has just the digits it needs below that, and a long sum has more than
+    // P digits. So once the digits beyond P are gone, the scale is already the possible one that
+    // is nearest to the wanted exponent.
     private boolean negative;
     private long magnitude;
     private int scale;
@@ -122,16 +126,21 @@ public final class DecimalUnit {
         if (!isRegister(d) || !isRegister(a) || !isExponent(exponent)) {
             return BAD;
         }
-        int less = exponent - exponents[a];
         hold(coefficients[a], exponents[a]);
-        boolean inexact = less > 0 && dropDigits(less);
-        padDown(exponent);
-        // The zeros that no longer fit into P digits leave the scale above the exponent.
-        if (scale > exponent && magnitude != 0) {
+        int dropped = exponent - scale;
+        if (dropped > 0) {
+            boolean inexact = dropDigits(dropped);
+            store(d, exponent);
+            return raise(inexact ? INEXACT | ROUNDED : ROUNDED);
+        }
+        // Seven zeros already put any magnitude but 0 beyond P digits, and a long still holds it.
+        int zeros = lesser(-dropped, GREATEST_PRECISION);
+        magnitude *= powerOfTen(zeros);
+        if (magnitude >= limit) {
             return raise(RANGE);
         }
         store(d, exponent);
-        return raise((inexact ? INEXACT : 0) | (less > 0 ? ROUNDED : 0));
+        return 0;
     }
 
     public int compare(int a, int b) {
@@ -256,10 +265,6 @@ public final class DecimalUnit {
             return 0;
         }
         boolean inexact = shorten();
-        if (!inexact) {
-            padDown(wanted);
-            stripUp(wanted);
-        }
         if (!isExponent(scale)) {
             return raise(RANGE);
         }
@@ -299,7 +304,6 @@ public final class DecimalUnit {
         if (goesAway(half)) {
             magnitude++;
         }
-        tail = false;
         return true;
     }
 
@@ -329,22 +333,6 @@ public final class DecimalUnit {
                 return !negative;
             default:
                 return half > 0;
-        }
-    }
-
-    /** Appends zeros to the magnitude while the scale is above the wanted one and P digits allow. */
-    private void padDown(int wanted) {
-        for (int i = 0; i < GREATEST_PRECISION && scale > wanted && magnitude * 10 < limit; i++) {
-            magnitude *= 10;
-            scale--;
-        }
-    }
-
-    /** Takes zeros off the magnitude while the scale is below the wanted one. */
-    private void stripUp(int wanted) {
-        for (int i = 0; i < GREATEST_PRECISION && scale < wanted && magnitude % 10 == 0; i++) {
-            magnitude /= 10;
-            scale++;
         }
     }
 }

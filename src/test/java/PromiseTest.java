@@ -21,6 +21,7 @@ public final class PromiseTest {
         promise6Products();
         promise6Quotients();
         promise6WrongInputs();
+        promise6OneAfterAnother();
         promise6SameRegisters();
         promise7Fused();
         promise7FarApart();
@@ -221,6 +222,25 @@ public final class PromiseTest {
         op(x, DIV, I | R, 666, -3);
         put(x, 0, 2, 0);
         op(x, DIV, I | R, -667, -3);
+        promise6LongQuotients();
+    }
+
+    /** Quotients that look like a multiple or a tie at their eighth digit. */
+    private static void promise6LongQuotients() {
+        DecimalUnit x = unit(7, 3);
+        put(x, 0, 1, 0);
+        put(x, 1, 11, 0);
+        op(x, DIV, I | R, 9090910, -8);
+        x.mode(0);
+        op(x, DIV, I | R, 9090909, -8);
+        x.mode(6);
+        put(x, 1, 18, 0);
+        op(x, DIV, I | R, 5555556, -8);
+        x.mode(0);
+        put(x, 1, 22, 0);
+        op(x, DIV, I | R, 4545455, -8);
+        put(x, 1, 39, 0);
+        op(x, DIV, I | R, 2564103, -8);
     }
 
     private static void promise6WrongInputs() {
@@ -241,6 +261,23 @@ public final class PromiseTest {
         Check.register("after BAD", x, 0, 15, 1);
         Check.register("after BAD", x, 1, 0, 2);
         Check.due("flags after BAD", x.flags(), 0);
+    }
+
+    private static void promise6OneAfterAnother() {
+        DecimalUnit x = unit(3, 3);
+        put(x, 0, 1, 20);
+        put(x, 1, 1, -20);
+        put(x, 3, 500, 0);
+        put(x, 4, 2, 0);
+        op(x, ADD, I | R, 101, 18);
+        Check.due("exact after inexact", x.apply(MUL, 5, 3, 4), R);
+        Check.register("exact after inexact", x, 5, 100, 1);
+        op(x, ADD, I | R, 101, 18);
+        Check.due("quantise after inexact", x.quantise(5, 3, 2), R);
+        Check.register("quantise after inexact", x, 5, 5, 2);
+        op(x, DIV, RANGE, 101, 18);
+        Check.due("exact after RANGE", x.apply(SUB, 5, 3, 4), 0);
+        Check.register("exact after RANGE", x, 5, 498, 0);
     }
 
     private static void promise6SameRegisters() {
