@@ -1,8 +1,16 @@
-/** Counts and prints the answers that are not as due. */
+/** Counts and prints the answers that are not as due, each with the sentence that it breaks. */
 final class Check {
+    private static String sentence = "";
     private static int wrong = 0;
+    private static int wrongOfSentence = 0;
 
     private Check() {
+    }
+
+    /** What follows tests this sentence of the document. */
+    static void sentence(String words) {
+        sentence = "[" + words + "] ";
+        wrongOfSentence = 0;
     }
 
     static void due(String what, long got, long want) {
@@ -17,6 +25,12 @@ final class Check {
         }
     }
 
+    static void due(String what, String got, String want) {
+        if (!got.equals(want)) {
+            fail(what + " is " + got + ", due is " + want);
+        }
+    }
+
     static void register(String what, DecimalUnit x, int r, int coefficient, int exponent) {
         due(what + ": coefficient(" + r + ")", x.coefficient(r), coefficient);
         due(what + ": exponent(" + r + ")", x.exponent(r), exponent);
@@ -24,8 +38,10 @@ final class Check {
 
     static void fail(String words) {
         wrong++;
-        if (wrong <= 50) {
-            System.out.println(words);
+        wrongOfSentence++;
+        // So many of one sentence show the fault; more would hide the other sentences.
+        if (wrongOfSentence <= 10) {
+            System.out.println(sentence + words);
         }
     }
 

@@ -27,15 +27,10 @@ public final class PromiseTest {
         promise7FarApart();
         promise7WrongInputs();
         promise8Quantise();
-        promise8Modes();
         promise8WrongInputs();
         promise9Compare();
         promises10And11Flags();
         promise12RefusedCalls();
-        finishedExact();
-        finishedRounded();
-        finishedZero();
-        finishedRange();
         Check.end();
     }
 
@@ -395,24 +390,6 @@ public final class PromiseTest {
         Check.register("quantise(1, 1, 0)", x, 1, 12, 0);
     }
 
-    private static void promise8Modes() {
-        int[] coefficients = {11, 15, 19, 25, 20, -11, -15, -19, -25, -20, 1, -1};
-        int[][] due = {
-            {1, 2, 2, 2, 2, -1, -2, -2, -2, -2, 0, 0},
-            {1, 2, 2, 3, 2, -1, -2, -2, -3, -2, 0, 0},
-            {1, 1, 1, 2, 2, -1, -1, -1, -2, -2, 0, 0},
-            {2, 2, 2, 3, 2, -2, -2, -2, -3, -2, 1, -1},
-            {1, 1, 1, 2, 2, -2, -2, -2, -3, -2, 0, -1},
-            {2, 2, 2, 3, 2, -1, -1, -1, -2, -2, 1, 0},
-            {1, 1, 2, 2, 2, -1, -1, -2, -2, -2, 0, 0}};
-        for (int mode = 0; mode <= 6; mode++) {
-            for (int i = 0; i < coefficients.length; i++) {
-                int flags = coefficients[i] % 10 == 0 ? R : I | R;
-                quantise(3, mode, d(coefficients[i], -1), 0, flags, d(due[mode][i], 0));
-            }
-        }
-    }
-
     private static void promise8WrongInputs() {
         DecimalUnit x = unit(3, 0);
         put(x, 0, 15, 1);
@@ -527,85 +504,5 @@ public final class PromiseTest {
         put(x, 0, -11, -1);
         x.quantise(1, 0, 0);
         Check.register("the mode after refused calls", x, 1, -2, 0);
-    }
-
-    private static void finishedExact() {
-        // At the wanted exponent, though a shorter coefficient has the value too.
-        op(5, MUL, d(50, 0), d(20, 0), 0, d(1000, 0));
-        op(5, DIV, d(9000, 0), d(3, 0), 0, d(3000, 0));
-        // The nearest exponent above the wanted one keeps as many zeros as fit.
-        op(5, MUL, d(5000, 0), d(2000, 0), R, d(10000, 3));
-        op(5, ADD, d(12, 18), d(0, -20), R, d(12000, 15));
-        // The nearest exponent below the wanted one has no zero to give.
-        op(5, DIV, d(1, 0), d(4, 0), 0, d(25, -2));
-        op(5, DIV, d(10, 0), d(4, 0), 0, d(25, -1));
-        op(7, DIV, d(5, 0), d(8000, 0), 0, d(625, -6));
-        op(7, DIV, d(1000000, 0), d(128, 0), 0, d(78125, -1));
-    }
-
-    private static void finishedRounded() {
-        int[][] due = {
-            {1000, 1004, 1002}, {1000, 1004, 1003}, {1000, 1003, 1002}, {1001, 1004, 1003},
-            {1000, 1003, 1002}, {1001, 1004, 1003}, {1000, 1004, 1002}};
-        int[] lows = {1, 37, 25};
-        for (int mode = 0; mode <= 6; mode++) {
-            for (int i = 0; i < lows.length; i++) {
-                DecimalUnit x = unit(4, mode);
-                put(x, 0, 1000, 1);
-                put(x, 1, lows[i], 0);
-                op(x, ADD, I | R, due[mode][i], 1);
-                put(x, 0, -1000, 1);
-                put(x, 1, -lows[i], 0);
-                int mirrored = mode == 4 ? 5 : mode == 5 ? 4 : mode;
-                op(x, ADD, I | R, -due[mirrored][i], 1);
-            }
-        }
-        // To P + 1 digits, and back to P.
-        op(3, ADD, d(999, 0), d(5, -1), I | R, d(100, 1));
-        op(3, ADD, d(-999, 0), d(-5, -1), I | R, d(-100, 1));
-        op(3, ADD, d(999, 0), d(4, -1), I | R, d(999, 0));
-        op(3, ADD, d(998, 0), d(5, -1), I | R, d(998, 0));
-        // With INEXACT goes ROUNDED, though the exponent is below the wanted one.
-        op(3, DIV, d(1, 0), d(3, 0), I | R, d(333, -3));
-    }
-
-    private static void finishedZero() {
-        op(3, MUL, d(0, 20), d(5, 20), 0, d(0, 20));
-        op(3, MUL, d(0, -20), d(5, -20), 0, d(0, -20));
-        op(3, MUL, d(0, 5), d(5, -9), 0, d(0, -4));
-        op(3, MUL, d(-5, 5), d(0, 16), 0, d(0, 20));
-        op(3, DIV, d(0, 20), d(5, -20), 0, d(0, 20));
-        op(3, DIV, d(0, -20), d(5, 20), 0, d(0, -20));
-        op(3, SUB, d(50, 3), d(5, 4), 0, d(0, 3));
-        op(3, ADD, d(0, 20), d(0, -20), 0, d(0, -20));
-        op(3, SUB, d(100, 18), d(1, 20), 0, d(0, 18));
-    }
-
-    private static void finishedRange() {
-        op(3, MUL, d(1, 20), d(1, 0), 0, d(1, 20));
-        // The finished decimal is the one at the wanted exponent, though 10E20 has its value too.
-        op(3, MUL, d(1, 20), d(1, 1), RANGE, STAYS);
-        op(3, MUL, d(10, -20), d(10, -1), RANGE, STAYS);
-        op(3, MUL, d(1, -20), d(1, -1), RANGE, STAYS);
-        op(3, MUL, d(1, -20), d(1, 0), 0, d(1, -20));
-        op(3, ADD, d(999, 20), d(1, 20), RANGE, STAYS);
-        op(3, ADD, d(999, 20), d(-1, 20), 0, d(998, 20));
-        op(3, ADD, d(999, 20), d(5, 19), RANGE, STAYS);
-        op(3, ADD, d(999, 20), d(4, 19), I | R, d(999, 20));
-        op(3, DIV, d(1, -17), d(3, 0), I | R, d(333, -20));
-        op(3, DIV, d(1, -18), d(3, 0), RANGE, STAYS);
-        op(3, DIV, d(2, -20), d(4, 0), RANGE, STAYS);
-        op(3, DIV, d(1, 20), d(3, -3), I | R, d(333, 20));
-        op(3, DIV, d(1, 20), d(3, -4), RANGE, STAYS);
-        op(3, DIV, d(1, 20), d(4, -2), 0, d(25, 20));
-        op(3, DIV, d(1, 20), d(4, -3), RANGE, STAYS);
-        DecimalUnit x = unit(3, 0);
-        put(x, 0, 1, 0);
-        put(x, 1, 3, 0);
-        x.apply(DIV, 2, 0, 1);
-        put(x, 0, 1, 20);
-        Check.due("RANGE alone", x.apply(MUL, 2, 0, 0), RANGE);
-        Check.due("what was up stays up", x.flags(), I | R | RANGE);
-        Check.register("the register stays", x, 2, 333, -3);
     }
 }
